@@ -289,7 +289,7 @@ public final class ChordalDesk {
         // Each round reaches at least one vertex more until all that can be reached are.
         for (int round = 0; round < VERTICES; round++) {
             for (int v = 0; v < VERTICES; v++) {
-                // Not by has: this is the deepest place below fill, and calls may go only six deep.
+                // Not by has: below fill that would be the sixth call deep, as deep as calls may go.
                 if ((reached >> v & 1) != 0) {
                     reached |= near[v] & set;
                 }
